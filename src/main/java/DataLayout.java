@@ -1014,9 +1014,12 @@ public final class DataLayout {
 
         /** The bytes at a place stand there so many times, one behind the other. */
         void repeat(int where, int bytes, int times) {
-            int behind = where + bytes * times;
+            if (where < 0 || bytes < 0) {
+                return;
+            }
+            int behind = Math.min(where + bytes * times, used);
             for (int i = where + bytes; i < behind; i++) {
-                put(i, get(i - bytes));
+                all[i] = all[i - bytes];
             }
         }
     }

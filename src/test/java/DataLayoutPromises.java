@@ -65,6 +65,7 @@ public final class DataLayoutPromises {
         clauseValues();
         clauseRanges();
         clauseParts();
+        deepestLevel();
         layBytes();
         layUsages();
         layWrongItems();
@@ -183,6 +184,8 @@ public final class DataLayoutPromises {
         due("2 -3 even so", x.item(2, 1, 1), -3);
         due("2 120 items", x.count(0), 120);
         due("2 120 items laid", x.lay(), 119 * 8 + 1);
+        due("2 the last one is there", x.place(120), 119 * 8);
+        due("2 none behind it", x.place(121), -2);
         DataLayout y = new DataLayout();
         due("2 deepest: 1", y.item(1, 0, 0), 1);
         for (int level = 2; level <= 48; level++) {
@@ -324,6 +327,19 @@ public final class DataLayoutPromises {
         due("3 size of a group's part", x.size(10), 3);
         due("3 place of one's part", x.place(11), 9);
         due("3 size of one's part", x.size(11), 2);
+    }
+
+    private static void deepestLevel() {
+        DataLayout x = items(1, 0, 0, 49, 1, 2, 49, 1, 2, 49, 1, 1, 66, 0, 0);
+        due("3 level 49 is renamed", x.clause(5, 5, 2, 2), 1);
+        due("3 level 49 is a table", x.clause(4, 0, 3, 0), 1);
+        due("10 level 49 redefines", x.redefines(3, 2), 1);
+        due("4 level 49 laid", x.lay(), 5);
+        DataLayout y = items(1, 0, 0, 2, 1, 2, 2, 1, 2, 2, 1, 1, 66, 0, 0);
+        due("3 level 2 is renamed", y.clause(5, 5, 2, 2), 1);
+        due("3 level 2 is a table", y.clause(4, 0, 3, 0), 1);
+        due("10 level 2 redefines", y.redefines(3, 2), 1);
+        due("4 level 2 laid", y.lay(), 5);
     }
 
     private static void layBytes() {
