@@ -546,7 +546,7 @@ public final class DataLayout {
             this.usage = usage;
             this.digits = size;
             this.bytes = Kinds.bytesOf(usage, size);
-            this.parent = level == NAMING ? null : around;
+            this.parent = level <= DEEPEST ? around : null;
             this.named = level == NAMING ? around : null;
             this.spot = new Spot();
             this.name = NONE;
