@@ -6,8 +6,11 @@ import java.util.TreeSet;
 // Random calls from fixed seeds: every answer is compared with that of a second model, which is
 // written from the document in another way (recursive, and byte by byte).
 public final class DataLayoutStorm {
-    private static final int RUNS = 6000;
-    private static final int CALLS = 400;
+    private static final int RUNS = 12000;
+    // what an object answers behind its 512th call is free
+    private static final int CALLS = 512;
+    private static final int BYTES_AT_ONCE = 90;
+    private static final int ITEMS_AT_ONCE = 12;
 
     private static final int AIOOBE = -7001;
     private static final int IAE = -7002;
@@ -588,6 +591,7 @@ public final class DataLayoutStorm {
         return random.nextInt(30) == 0 ? odd() : 1 + (n == 0 ? 0 : random.nextInt(n));
     }
 
+    /** Told once for each call of the real object. */
     private boolean same(String call, long got, long want) {
         told.add(call + " -> " + got);
         if (got == want) {
@@ -657,18 +661,30 @@ public final class DataLayoutStorm {
         if (want >= 0) {
             laidRuns++;
         }
-        return same("lay()", real.lay(), want) && (want < 0 || allAsLaid());
+        return same("lay()", real.lay(), want) && (want < 0 || isAsLaid());
     }
 
-    private boolean allAsLaid() {
-        for (int i = 0; i < model.total; i++) {
-            if (real.at(i) != model.bytes[i]) {
-                return same("at(" + i + ")", real.at(i), model.bytes[i]);
+    private boolean mayCall() {
+        return told.size() < CALLS;
+    }
+
+    /** Where a stretch of so many out of all begins. */
+    private int stretch(int all, int many) {
+        return all <= many ? 0 : random.nextInt(all - many + 1);
+    }
+
+    private boolean isAsLaid() {
+        int from = stretch(model.total, BYTES_AT_ONCE);
+        for (int i = from; i < model.total && i < from + BYTES_AT_ONCE && mayCall(); i++) {
+            if (!same("at(" + i + ")", real.at(i), model.bytes[i])) {
+                return false;
             }
         }
-        for (Node x : model.nodes) {
-            for (int call = 5; call <= 12; call += call == 6 ? 6 : 1) {
-                if (!askBoth(call, x.number, 1, 1, 1)) {
+        int items = model.nodes.size();
+        int first = 1 + stretch(items, ITEMS_AT_ONCE);
+        for (int i = first; i <= items && i < first + ITEMS_AT_ONCE; i++) {
+            for (int call = 5; call <= 12 && mayCall(); call += call == 6 ? 6 : 1) {
+                if (!askBoth(call, i, 1, 1, 1)) {
                     return false;
                 }
             }
@@ -770,7 +786,7 @@ public final class DataLayoutStorm {
 
     private boolean run() {
         int of = 2 + random.nextInt(random.nextInt(6) == 0 ? 150 : 14);
-        for (int i = 0; i < Math.min(CALLS, 3 * of + 40); i++) {
+        for (int i = 0; i < 3 * of + 40 && mayCall(); i++) {
             if (!step(of, i)) {
                 return false;
             }
