@@ -1136,6 +1136,11 @@ public final class DataLayoutBounds {
                 out("before it is laid out again", at(again, i), i + 60);
             }
         }
+        DataLayout first = with(77, 9, 0);
+        lay(first, 4);
+        due("octet", first.octet(0, (byte) 1), 1);
+        lay(first, 4);
+        bytes(first, 0, 0, 0, 0, 0);
         says("those of redefining items are what they are by the others, and external ones by the first of their name;"
                 + " bytes that none of the others has are 0");
         DataLayout w = with(1, 0, 0, 2, 7, 3, 2, 1, 2, 2, 3, 1, 1, 1, 6, 1, 3, 4);
