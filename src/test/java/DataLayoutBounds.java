@@ -1163,6 +1163,22 @@ public final class DataLayoutBounds {
         due("external", u.external(1, 4) + u.external(4, 4), 2);
         lay(u, 4);
         bytes(u, 0, 32, 0, 0, 0);
+        DataLayout t = with(1, 0, 0, 2, 0, 0, 3, 1, 1, 3, 3, 2, 3, 5, 1, 2, 3, 1, 1, 0, 0, 2, 1, 1, 1, 0, 0, 2, 7, 1);
+        redefine(t, 6, 2);
+        clause(t, 6, TABLE, 5, 0);
+        redefine(t, 7, 1);
+        clause(t, 8, TABLE, 4, 0);
+        redefine(t, 9, 1);
+        clause(t, 10, DEPENDS, 0, 7);
+        lay(t, 7);
+        bytes(t, 0, 32, 48, 48, 43, 48, 0, 0);
+        out("no byte more", at(t, 7), OUT_OF_BYTES);
+        DataLayout r = with(1, 0, 0, 2, 1, 1, 2, 3, 2, 1, 0, 0, 2, 8, 1, 2, 2, 1, 1, 0, 0, 2, 1, 1);
+        clause(r, 8, TABLE, 3, 0);
+        due("external", r.external(7, 1) + r.external(1, 1), 2);
+        lay(r, 12);
+        bytes(r, 0, 32, 48, 48, 0, 0, 0, 0, 0, 0, 0, 0, 32);
+        out("no byte more", at(r, 12), OUT_OF_BYTES);
     }
 
     // ---- Terms: refusals
@@ -1770,6 +1786,7 @@ public final class DataLayoutBounds {
             clause(x, 5, TABLE, 2, 0);
             lay(x, 18);
             due("depending", x.depending(3, now), 1);
+            in("all with " + now + " entries, with a table in each", x.size(1), 3 + 3 * now);
             for (int a = -1; a <= 7; a++) {
                 boolean is = a >= 1 && a <= now;
                 by(is, a + " of " + now, subscript(x, 3, a, 0, 0), is ? 3 * a : -6);
