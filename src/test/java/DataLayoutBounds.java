@@ -1138,7 +1138,9 @@ public final class DataLayoutBounds {
         }
         DataLayout first = with(77, 9, 0);
         lay(first, 4);
-        due("octet", first.octet(0, (byte) 1), 1);
+        for (int i = 0; i < 4; i++) {
+            due("octet", first.octet(i, (byte) 1), 1);
+        }
         lay(first, 4);
         bytes(first, 0, 0, 0, 0, 0);
         says("those of redefining items are what they are by the others, and external ones by the first of their name;"
