@@ -15,6 +15,7 @@ public final class DataLayoutStorm {
     private static final int AIOOBE = -7001;
     private static final int IAE = -7002;
     private static final int ISE = -7003;
+    private static final int BY_MACHINE = -7004;
 
     private static final class Node {
         int number;
@@ -718,7 +719,7 @@ public final class DataLayoutStorm {
                     return 0;
             }
         } catch (ArrayIndexOutOfBoundsException e) {
-            return AIOOBE;
+            return thrown(e);
         } catch (IllegalArgumentException e) {
             return IAE;
         } catch (IllegalStateException e) {
@@ -752,9 +753,15 @@ public final class DataLayoutStorm {
         try {
             got = real.at(i);
         } catch (ArrayIndexOutOfBoundsException e) {
-            got = AIOOBE;
+            got = thrown(e);
         }
         return same("at(" + i + ")", got, want);
+    }
+
+    /** The machine throws the same class, but is not to: its texts begin with "Index". */
+    private static int thrown(ArrayIndexOutOfBoundsException e) {
+        String text = e.getMessage();
+        return text == null || text.startsWith("Index") ? BY_MACHINE : AIOOBE;
     }
 
     private boolean switchChecks() {
